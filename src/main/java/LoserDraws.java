@@ -783,6 +783,11 @@ public final class LoserDraws {
         private int drawn;
         private int total;
 
+        private Drum() {
+            // No SLIP at all has one way to make nobody FREE.
+            freeing[0] = 1;
+        }
+
         private void empty(int howMany, int toDraw) {
             people = Math.max(0, Math.min(howMany, MOST_CITIZENS));
             wishers = 0;
@@ -880,31 +885,39 @@ public final class LoserDraws {
             return set >= 0 && n >= 0 && n < SPAN && at < freeing.length ? freeing[at] : 0;
         }
 
-        /** Each set is told by the smaller one that lacks its last CITIZEN. */
+        /** Each set is told by a smaller one, the others, and its last CITIZEN. */
         private void countFreeing() {
-            int taken = taken();
-            freeing[0] = 1;
-            for (int n = 1; n <= taken && n < SPAN; n++) {
-                freeing[n] = 0;
+            for (int last = 0; last < people; last++) {
+                for (int others = 0; others < 1 << last; others++) {
+                    countFreeingWith(others, last);
+                }
             }
-            for (int set = 1; set <= everybody(); set++) {
-                int last = 31 - Integer.numberOfLeadingZeros(set);
-                for (int n = 0; n <= taken && n < SPAN; n++) {
-                    int at = set * SPAN + n;
-                    if (at < freeing.length) {
-                        freeing[at] = waysWithLast(set & ~(1 << last), last, n);
-                    }
+        }
+
+        /**
+         * Fewer SLIPS than there are CITIZENS in a set can't make it FREE: these places are never set
+         * and stay 0.
+         */
+        private void countFreeingWith(int others, int last) {
+            int taken = taken();
+            int set = others | 1 << last;
+            for (int n = Integer.bitCount(set); n <= taken && n < SPAN; n++) {
+                int at = set * SPAN + n;
+                if (at >= 0 && at < freeing.length) {
+                    freeing[at] = waysWithLast(others, last, n);
                 }
             }
         }
 
         /** How many ways n SLIPS have to make just the others and a last CITIZEN FREE. */
         private long waysWithLast(int others, int last, int n) {
+            int most = n - Integer.bitCount(others);
             long sum = 0;
-            for (int k = 1; k <= n && k < SPAN; k++) {
-                int at = last * SPAN + k;
-                if (at >= 0 && at < picks.length) {
-                    sum += picks[at] * freeingBy(others, n - k);
+            for (int k = 1; k <= most; k++) {
+                int pick = last * SPAN + k;
+                int rest = others * SPAN + n - k;
+                if (pick >= 0 && pick < picks.length && rest >= 0 && rest < freeing.length) {
+                    sum += picks[pick] * freeing[rest];
                 }
             }
             return sum;
