@@ -27,6 +27,9 @@ public final class LoserDraws {
         for (int c = 0; c < MOST_CITIZENS; c++) {
             citizens[c] = new Citizen();
         }
+        for (int k = 0; k < MOST_SHEETS; k++) {
+            sheets[k] = new Row();
+        }
     }
 
     // ---- 1 the republic
@@ -39,7 +42,7 @@ public final class LoserDraws {
         if (!isLane(lane)) {
             return OUTSIDE;
         }
-        Row row = sheets[sheet];
+        Row row = rowOf(sheet);
         int found = faultOf(row, lane, i, n);
         if (row == null || found != 0) {
             return faulted(found);
@@ -124,7 +127,7 @@ public final class LoserDraws {
         if (people == 0) {
             return STATE;
         }
-        Row row = sheets[sheet];
+        Row row = rowOf(sheet);
         int found = faultOf(row, lane, i, n);
         if (row == null || found != 0) {
             return faulted(found);
@@ -338,7 +341,8 @@ public final class LoserDraws {
 
     public int sheet(int k, int lane, int n) {
         lastFault = 0;
-        if (!isSheet(k)) {
+        Row row = placeOf(k);
+        if (row == null) {
             return UNKNOWN;
         }
         if (!isLane(lane) || n > MOST_CELLS) {
@@ -347,7 +351,7 @@ public final class LoserDraws {
         if (n < 0) {
             return faulted(SIZE);
         }
-        sheets[k] = new Row(lane, n);
+        row.begin(lane, n);
         return 1;
     }
 
@@ -355,10 +359,11 @@ public final class LoserDraws {
         if (!isSheet(k)) {
             return UNKNOWN;
         }
-        if (sheets[k] == null) {
+        Row row = rowOf(k);
+        if (row == null) {
             return 0;
         }
-        sheets[k] = null;
+        row.end();
         return 1;
     }
 
@@ -367,7 +372,7 @@ public final class LoserDraws {
         if (!isSheet(k)) {
             return UNKNOWN;
         }
-        Row row = sheets[k];
+        Row row = rowOf(k);
         if (row == null) {
             return faulted(NULL);
         }
@@ -383,7 +388,7 @@ public final class LoserDraws {
         if (!isSheet(k) || !isLane(lane)) {
             return LOST;
         }
-        Row row = sheets[k];
+        Row row = rowOf(k);
         int found = faultOf(row, lane, i, 1);
         if (row == null || found != 0) {
             lastFault = found;
@@ -397,8 +402,8 @@ public final class LoserDraws {
         if (!isSheet(k) || !isSheet(other)) {
             return UNKNOWN;
         }
-        Row from = sheets[k];
-        Row to = sheets[other];
+        Row from = rowOf(k);
+        Row to = rowOf(other);
         if (from == null || to == null) {
             return faulted(NULL);
         }
@@ -499,6 +504,17 @@ public final class LoserDraws {
     /** The CITIZEN of a number, or null where there is none. */
     private Citizen citizen(int c) {
         return c >= 0 && c < people && c < citizens.length ? citizens[c] : null;
+    }
+
+    /** The row of a SHEET, there or not, or null where there is no such SHEET. */
+    private Row placeOf(int k) {
+        return isSheet(k) && k < sheets.length ? sheets[k] : null;
+    }
+
+    /** What a SHEET has, or null where it has nothing. */
+    private Row rowOf(int k) {
+        Row row = placeOf(k);
+        return row != null && row.isThere ? row : null;
     }
 
     private int faulted(int found) {
@@ -656,18 +672,31 @@ public final class LoserDraws {
         }
     }
 
-    /** What a SHEET has: cells that are cut to their LANE as they are set. */
+    /**
+     * What a SHEET has: cells that are cut to their LANE as they are set. A SHEET has the same row all
+     * along, begun anew and ended, so that no call makes one.
+     */
     private static final class Row {
-        private final int lane;
-        private final int[] cells;
+        private final int[] cells = new int[MOST_CELLS];
+        private boolean isThere;
+        private int lane;
+        private int length;
 
-        private Row(int lane, int n) {
-            this.lane = lane;
-            this.cells = new int[n < 0 ? 0 : n];
+        private void begin(int ofLane, int n) {
+            isThere = true;
+            lane = ofLane;
+            length = Math.max(0, Math.min(n, cells.length));
+            for (int i = 0; i < cells.length; i++) {
+                cells[i] = 0;
+            }
+        }
+
+        private void end() {
+            isThere = false;
         }
 
         private boolean holds(int i, int n) {
-            return i >= 0 && n >= 0 && i <= cells.length && n <= cells.length - i;
+            return i >= 0 && n >= 0 && i <= length && n <= length - i;
         }
 
         private int at(int i) {
