@@ -103,6 +103,19 @@ public final class LanguageTest {
             if (text.charAt(i) > 126) expect(false, "signs 1 to 127 alone, at " + i);
         }
         methodsAreShort(code);
+        madeOnce(code);
+    }
+
+    /** All calls of a run live in one room: objects are made as an object is made, and by no call. */
+    private static void madeOnce(String code) {
+        int from = code.indexOf("public LoserDraws() {");
+        int to = code.indexOf("\n    }", from);
+        expect(from > 0 && to > from, "there is a constructor");
+        String calls = code.substring(0, Math.max(0, from)) + code.substring(Math.max(0, to));
+        for (String line : calls.split("\n")) {
+            boolean field = line.trim().startsWith("private final ");
+            expect(field || !line.matches(".*\\bnew\\b.*"), "made once: " + line.trim());
+        }
     }
 
     private static void methodsAreShort(String code) {
