@@ -37,7 +37,9 @@ public final class LanguageTest {
         methods();
         fields();
         classes();
-        source(Files.readString(Path.of("src/main/java/LoserDraws.java")));
+        String text = Files.readString(Path.of("src/main/java/LoserDraws.java"));
+        source(text);
+        asDocumented(text, Files.readString(Path.of("../shared/DOC.md")));
         System.out.println(wrong == 0 ? "the class keeps to its language" : wrong + " rules are broken");
         if (wrong != 0) System.exit(1);
     }
@@ -104,6 +106,27 @@ public final class LanguageTest {
         }
         methodsAreShort(code);
         madeOnce(code);
+    }
+
+    /** The document's face, line by line and in its order, with the headings that it tells ahead of calls. */
+    private static void asDocumented(String text, String document) {
+        Matcher face = Pattern.compile("(?s)```java\n(.*?)```").matcher(document);
+        expect(face.find(), "the document has a face");
+        int at = 0;
+        for (String line : face.group(1).lines().map(String::trim).toList()) {
+            String member = line.replaceFirst("\\);$", ") {");
+            int next = text.indexOf(member, at);
+            expect(next >= 0, "as the face has it, in its order: " + line);
+            at = Math.max(at, next);
+        }
+        Matcher heading = Pattern.compile("Ahead of the calls `(\\w+)`.* says: (---- .*)\\.").matcher(document);
+        int seen = 0;
+        while (heading.find()) {
+            seen++;
+            Pattern ahead = Pattern.compile("// " + heading.group(2) + "\n\\s+public \\w+ " + heading.group(1) + "\\(");
+            expect(ahead.matcher(text).find(), heading.group(2) + " ahead of " + heading.group(1));
+        }
+        expect(seen == 5, "five headings");
     }
 
     /** All calls of a run live in one room: objects are made as an object is made, and by no call. */
