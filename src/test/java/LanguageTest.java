@@ -91,7 +91,11 @@ public final class LanguageTest {
             for (Field f : c.getDeclaredFields()) {
                 expect(!Modifier.isStatic(f.getModifiers()) || Modifier.isFinal(f.getModifiers()), "final: " + f);
             }
-            for (Method m : c.getDeclaredMethods()) expect(m.getParameterCount() <= 7, "at most seven parameters: " + m);
+            for (Method m : c.getDeclaredMethods()) {
+                expect(m.getParameterCount() <= 7, "at most seven parameters: " + m);
+                boolean taken = FACE.stream().anyMatch(f -> f.contains(" " + m.getName() + "("));
+                expect(!taken, "another name than one of the face: " + m);
+            }
         }
     }
 
